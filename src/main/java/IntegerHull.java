@@ -82,7 +82,7 @@ public final class IntegerHull {
     public int points() {
         int sum = 0;
         for (int x = 0; x <= SIDE; x++) {
-            sum += highest[x] - lowest[x] + 1;
+            sum += column(x);
         }
         return sum;
     }
@@ -124,16 +124,12 @@ public final class IntegerHull {
     }
 
     public int best(int p, int q) {
-        if (!within(p, MOST_WEIGHT) || !within(q, MOST_WEIGHT)) {
-            return BAD_FACTOR;
-        }
-        if (cornerCount == 0) {
-            return NONE;
-        }
-        int i = firstBestCorner(p, q);
-        return p * cornerX[i] + q * cornerY[i];
+        int i = bestCorner(p, q);
+        // A number below 0 is no corner but the reason why there is none, and the two calls share their reasons.
+        return i < 0 ? i : p * cornerX[i] + q * cornerY[i];
     }
 
+    // The greatest value over all lattice points is reached at a corner, so the corners are enough.
     public int bestCorner(int p, int q) {
         if (!within(p, MOST_WEIGHT) || !within(q, MOST_WEIGHT)) {
             return BAD_FACTOR;
@@ -141,7 +137,16 @@ public final class IntegerHull {
         if (cornerCount == 0) {
             return NONE;
         }
-        return firstBestCorner(p, q);
+        int found = 0;
+        int greatest = p * cornerX[0] + q * cornerY[0];
+        for (int i = 1; i < cornerCount; i++) {
+            int value = p * cornerX[i] + q * cornerY[i];
+            if (value > greatest) {
+                found = i;
+                greatest = value;
+            }
+        }
+        return found;
     }
 
     public int column(int x) {
@@ -203,21 +208,19 @@ public final class IntegerHull {
         if (cornerCount == 0) {
             return;
         }
+        // A rightmost column of one point gives that point twice; two equal points make no turn, so the next point of the
+        // chain takes the second one back.
         int turningPoint = cornerCount - 1;
         for (int x = SIDE; x >= 0; x--) {
-            if (lowest[x] <= highest[x] && !isCorner(turningPoint, x, highest[x])) {
+            if (lowest[x] <= highest[x]) {
                 extendChain(turningPoint, x, highest[x]);
             }
         }
-        // The upper chain ends where the lower one began if the leftmost column has one point alone.
+        // A leftmost column of one point ends the upper chain where the lower one began.
         int last = cornerCount - 1;
-        if (last > 0 && isCorner(0, cornerX[last], cornerY[last])) {
+        if (last > 0 && cornerX[last] == cornerX[0] && cornerY[last] == cornerY[0]) {
             cornerCount = last;
         }
-    }
-
-    private boolean isCorner(int i, int x, int y) {
-        return cornerX[i] == x && cornerY[i] == y;
     }
 
     // Takes back the corners, down to the chain's first one, at which the way to (x, y) would not turn left.
@@ -249,19 +252,5 @@ public final class IntegerHull {
             }
         }
         return false;
-    }
-
-    // The greatest value over all lattice points is reached at a corner, so the corners are enough.
-    private int firstBestCorner(int p, int q) {
-        int found = 0;
-        int greatest = p * cornerX[0] + q * cornerY[0];
-        for (int i = 1; i < cornerCount; i++) {
-            int value = p * cornerX[i] + q * cornerY[i];
-            if (value > greatest) {
-                found = i;
-                greatest = value;
-            }
-        }
-        return found;
     }
 }
