@@ -50,10 +50,10 @@ public final class PromisesTest {
     private static void wholeSquare(String when, IntegerHull hull) {
         check.due(when + ": points()", hull.points(), 41 * 41);
         check.due(when + ": corners()", hull.corners(), 4);
-        check.due(when + ": corner(0)", hull.corner(0), at(0, 0));
-        check.due(when + ": corner(1)", hull.corner(1), at(40, 0));
-        check.due(when + ": corner(2)", hull.corner(2), at(40, 40));
-        check.due(when + ": corner(3)", hull.corner(3), at(0, 40));
+        check.due(when + ": corner(0)", hull.corner(0), Regions.at(0, 0));
+        check.due(when + ": corner(1)", hull.corner(1), Regions.at(40, 0));
+        check.due(when + ": corner(2)", hull.corner(2), Regions.at(40, 40));
+        check.due(when + ": corner(3)", hull.corner(3), Regions.at(0, 40));
         check.due(when + ": corner(4)", hull.corner(4), NONE);
         check.due(when + ": area2()", hull.area2(), 3200);
         check.due(when + ": border()", hull.border(), 160);
@@ -144,7 +144,7 @@ public final class PromisesTest {
         hull.condition(0, 1, 4);
         check.due("shift(0, 1)", hull.shift(0, 1), 9);
         check.due("shifted: points()", hull.points(), 10);
-        check.due("shifted: corner(2)", hull.corner(2), at(1, 4));
+        check.due("shifted: corner(2)", hull.corner(2), Regions.at(1, 4));
         check.due("shift(1, 0)", hull.shift(1, 0), 4);
         check.due("both shifted: points()", hull.points(), 2);
         check.due("shift(1, -1000)", hull.shift(1, -1000), 0);
@@ -172,7 +172,7 @@ public final class PromisesTest {
     }
 
     private static void pointsAndColumns() {
-        IntegerHull hull = triangle();
+        IntegerHull hull = Regions.triangle(3);
         check.due("triangle: points()", hull.points(), 10);
         int[] counts = {4, 3, 2, 1, 0};
         for (int x = 0; x < counts.length; x++) {
@@ -183,13 +183,13 @@ public final class PromisesTest {
             check.due("triangle: column(" + x + ")", hull.column(x), 0);
             check.due("square: column(" + x + ")", new IntegerHull().column(x), 0);
         }
-        IntegerHull none = withoutPoints();
+        IntegerHull none = Regions.withoutPoints();
         check.due("no points: points()", none.points(), 0);
         check.due("no points: column(0)", none.column(0), 0);
     }
 
     private static void hasOutsideTheSquare() {
-        IntegerHull hull = triangle();
+        IntegerHull hull = Regions.triangle(3);
         check.due("triangle: has(1, 2)", hull.has(1, 2), true);
         check.due("triangle: has(2, 2)", hull.has(2, 2), false);
         check.due("triangle: has(0, 3)", hull.has(0, 3), true);
@@ -202,37 +202,37 @@ public final class PromisesTest {
             check.due("square: has(3, " + bad + ")", square.has(3, bad), false);
             check.due("square: has(" + bad + ", " + bad + ")", square.has(bad, bad), false);
         }
-        check.due("no points: has(0, 0)", withoutPoints().has(0, 0), false);
-        check.due("no points: has(0, -1)", withoutPoints().has(0, -1), false);
+        check.due("no points: has(0, 0)", Regions.withoutPoints().has(0, 0), false);
+        check.due("no points: has(0, -1)", Regions.withoutPoints().has(0, -1), false);
     }
 
     private static void cornersOfSmallHulls() {
-        IntegerHull none = withoutPoints();
+        IntegerHull none = Regions.withoutPoints();
         flat("no points", none, 0);
         check.due("no points: corner(0)", none.corner(0), NONE);
 
-        IntegerHull one = box(7, 7, 5, 5);
+        IntegerHull one = Regions.box(7, 7, 5, 5);
         flat("one point", one, 1);
-        check.due("one point: corner(0)", one.corner(0), at(7, 5));
+        check.due("one point: corner(0)", one.corner(0), Regions.at(7, 5));
         check.due("one point: corner(1)", one.corner(1), NONE);
 
-        IntegerHull upright = box(7, 7, 2, 6);
+        IntegerHull upright = Regions.box(7, 7, 2, 6);
         flat("upright", upright, 5);
-        check.due("upright: corner(0)", upright.corner(0), at(7, 2));
-        check.due("upright: corner(1)", upright.corner(1), at(7, 6));
+        check.due("upright: corner(0)", upright.corner(0), Regions.at(7, 2));
+        check.due("upright: corner(1)", upright.corner(1), Regions.at(7, 6));
         check.due("upright: corner(2)", upright.corner(2), NONE);
 
-        IntegerHull level = box(3, 5, 40, 40);
+        IntegerHull level = Regions.box(3, 5, 40, 40);
         flat("level", level, 3);
-        check.due("level: corner(0)", level.corner(0), at(3, 40));
-        check.due("level: corner(1)", level.corner(1), at(5, 40));
+        check.due("level: corner(0)", level.corner(0), Regions.at(3, 40));
+        check.due("level: corner(1)", level.corner(1), Regions.at(5, 40));
 
         IntegerHull falling = new IntegerHull();
         falling.condition(1, 1, 40);
         falling.condition(-1, -1, -40);
         flat("falling", falling, 41);
-        check.due("falling: corner(0)", falling.corner(0), at(0, 40));
-        check.due("falling: corner(1)", falling.corner(1), at(40, 0));
+        check.due("falling: corner(0)", falling.corner(0), Regions.at(0, 40));
+        check.due("falling: corner(1)", falling.corner(1), Regions.at(40, 0));
         check.due("falling: corner(2)", falling.corner(2), NONE);
     }
 
@@ -253,8 +253,8 @@ public final class PromisesTest {
         line.condition(1, -3, 0);
         line.condition(-1, 3, 0);
         flat("every third column", line, 14);
-        check.due("every third column: corner(0)", line.corner(0), at(0, 0));
-        check.due("every third column: corner(1)", line.corner(1), at(39, 13));
+        check.due("every third column: corner(0)", line.corner(0), Regions.at(0, 0));
+        check.due("every third column: corner(1)", line.corner(1), Regions.at(39, 13));
         check.due("every third column: column(1)", line.column(1), 0);
         check.due("every third column: column(3)", line.column(3), 1);
 
@@ -266,20 +266,20 @@ public final class PromisesTest {
         check.due("thin: points()", thin.points(), 5);
         check.due("thin: column(1)", thin.column(1), 0);
         check.due("thin: corners()", thin.corners(), 4);
-        check.due("thin: corner(0)", thin.corner(0), at(0, 0));
-        check.due("thin: corner(1)", thin.corner(1), at(2, 1));
-        check.due("thin: corner(2)", thin.corner(2), at(5, 3));
-        check.due("thin: corner(3)", thin.corner(3), at(6, 4));
+        check.due("thin: corner(0)", thin.corner(0), Regions.at(0, 0));
+        check.due("thin: corner(1)", thin.corner(1), Regions.at(2, 1));
+        check.due("thin: corner(2)", thin.corner(2), Regions.at(5, 3));
+        check.due("thin: corner(3)", thin.corner(3), Regions.at(6, 4));
         check.due("thin: border()", thin.border(), 5);
         check.due("thin: area2()", thin.area2(), 3);
     }
 
     private static void cornersInOrder() {
-        IntegerHull hull = triangle();
+        IntegerHull hull = Regions.triangle(3);
         check.due("triangle: corners()", hull.corners(), 3);
-        check.due("triangle: corner(0)", hull.corner(0), at(0, 0));
-        check.due("triangle: corner(1)", hull.corner(1), at(3, 0));
-        check.due("triangle: corner(2)", hull.corner(2), at(0, 3));
+        check.due("triangle: corner(0)", hull.corner(0), Regions.at(0, 0));
+        check.due("triangle: corner(1)", hull.corner(1), Regions.at(3, 0));
+        check.due("triangle: corner(2)", hull.corner(2), Regions.at(0, 3));
         check.due("triangle: corner(3)", hull.corner(3), NONE);
         check.due("triangle: corner(-1)", hull.corner(-1), NONE);
 
@@ -288,7 +288,7 @@ public final class PromisesTest {
         cut.condition(2, 0, 3);
         cut.condition(0, 2, 3);
         check.due("cut: corners()", cut.corners(), 4);
-        check.due("cut: corner(2)", cut.corner(2), at(1, 1));
+        check.due("cut: corner(2)", cut.corner(2), Regions.at(1, 1));
 
         // A point in the leftmost column alone: it is number 0 although others lie lower.
         IntegerHull tip = new IntegerHull();
@@ -296,21 +296,21 @@ public final class PromisesTest {
         tip.condition(-1, 1, 4);
         tip.condition(1, 0, 4);
         check.due("tip: corners()", tip.corners(), 3);
-        check.due("tip: corner(0)", tip.corner(0), at(0, 4));
-        check.due("tip: corner(1)", tip.corner(1), at(4, 0));
-        check.due("tip: corner(2)", tip.corner(2), at(4, 8));
+        check.due("tip: corner(0)", tip.corner(0), Regions.at(0, 4));
+        check.due("tip: corner(1)", tip.corner(1), Regions.at(4, 0));
+        check.due("tip: corner(2)", tip.corner(2), Regions.at(4, 8));
     }
 
     private static void areaAndBorder() {
-        IntegerHull hull = triangle();
+        IntegerHull hull = Regions.triangle(3);
         check.due("triangle: area2()", hull.area2(), 9);
         check.due("triangle: border()", hull.border(), 9);
-        IntegerHull small = box(3, 5, 10, 13);
+        IntegerHull small = Regions.box(3, 5, 10, 13);
         check.due("box: points()", small.points(), 12);
         check.due("box: area2()", small.area2(), 12);
         check.due("box: border()", small.border(), 10);
-        check.due("least box: area2()", box(39, 40, 39, 40).area2(), 2);
-        check.due("least box: border()", box(39, 40, 39, 40).border(), 4);
+        check.due("least box: area2()", Regions.box(39, 40, 39, 40).area2(), 2);
+        check.due("least box: border()", Regions.box(39, 40, 39, 40).border(), 4);
         IntegerHull half = new IntegerHull();
         half.condition(-1, 1, 0);
         check.due("half: points()", half.points(), 861);
@@ -319,7 +319,7 @@ public final class PromisesTest {
     }
 
     private static void bestValues() {
-        IntegerHull hull = box(3, 5, 10, 13);
+        IntegerHull hull = Regions.box(3, 5, 10, 13);
         check.due("box: best(1, 0)", hull.best(1, 0), 5);
         check.due("box: best(-1, 0)", hull.best(-1, 0), -3);
         check.due("box: best(0, 1)", hull.best(0, 1), 13);
@@ -328,15 +328,15 @@ public final class PromisesTest {
         check.due("box: best(100, -100)", hull.best(100, -100), -500);
         check.due("box: best(-100, 100)", hull.best(-100, 100), 1000);
         // The same numbers as the constants, but values here.
-        check.due("at (1, 0): best(-1, 0)", box(1, 1, 0, 0).best(-1, 0), -1);
-        check.due("at (2, 0): best(-1, 0)", box(2, 2, 0, 0).best(-1, 0), -2);
+        check.due("at (1, 0): best(-1, 0)", Regions.box(1, 1, 0, 0).best(-1, 0), -1);
+        check.due("at (2, 0): best(-1, 0)", Regions.box(2, 2, 0, 0).best(-1, 0), -2);
         check.due("square: best(-100, -100)", new IntegerHull().best(-100, -100), 0);
-        check.due("far point: best(-100, -100)", box(40, 40, 40, 40).best(-100, -100), -8000);
+        check.due("far point: best(-100, -100)", Regions.box(40, 40, 40, 40).best(-100, -100), -8000);
     }
 
     private static void bestRefuses() {
         int[] bad = {-101, 101, LEAST, GREATEST, LEAST + 100};
-        IntegerHull[] hulls = {new IntegerHull(), withoutPoints()};
+        IntegerHull[] hulls = {new IntegerHull(), Regions.withoutPoints()};
         for (IntegerHull hull : hulls) {
             for (int out : bad) {
                 check.due("best(" + out + ", 0)", hull.best(out, 0), BAD_FACTOR);
@@ -345,14 +345,14 @@ public final class PromisesTest {
                 check.due("bestCorner(0, " + out + ")", hull.bestCorner(0, out), BAD_FACTOR);
             }
         }
-        check.due("no points: best(100, -100)", withoutPoints().best(100, -100), NONE);
-        check.due("no points: bestCorner(-100, 100)", withoutPoints().bestCorner(-100, 100), NONE);
-        check.due("no points: best(0, 0)", withoutPoints().best(0, 0), NONE);
-        check.due("no points: bestCorner(0, 0)", withoutPoints().bestCorner(0, 0), NONE);
+        check.due("no points: best(100, -100)", Regions.withoutPoints().best(100, -100), NONE);
+        check.due("no points: bestCorner(-100, 100)", Regions.withoutPoints().bestCorner(-100, 100), NONE);
+        check.due("no points: best(0, 0)", Regions.withoutPoints().best(0, 0), NONE);
+        check.due("no points: bestCorner(0, 0)", Regions.withoutPoints().bestCorner(0, 0), NONE);
     }
 
     private static void bestCornerTies() {
-        IntegerHull hull = box(3, 5, 10, 13);
+        IntegerHull hull = Regions.box(3, 5, 10, 13);
         check.due("box: bestCorner(0, 0)", hull.bestCorner(0, 0), 0);
         check.due("box: bestCorner(1, 0)", hull.bestCorner(1, 0), 1);
         check.due("box: bestCorner(0, 1)", hull.bestCorner(0, 1), 2);
@@ -360,18 +360,18 @@ public final class PromisesTest {
         check.due("box: bestCorner(-1, 0)", hull.bestCorner(-1, 0), 0);
         check.due("box: bestCorner(0, -1)", hull.bestCorner(0, -1), 0);
         check.due("box: bestCorner(-100, 100)", hull.bestCorner(-100, 100), 3);
-        check.due("one point: bestCorner(-7, 3)", box(7, 7, 5, 5).bestCorner(-7, 3), 0);
-        check.due("upright: bestCorner(-7, 3)", box(7, 7, 2, 6).bestCorner(-7, 3), 1);
-        check.due("upright: bestCorner(-7, 0)", box(7, 7, 2, 6).bestCorner(-7, 0), 0);
+        check.due("one point: bestCorner(-7, 3)", Regions.box(7, 7, 5, 5).bestCorner(-7, 3), 0);
+        check.due("upright: bestCorner(-7, 3)", Regions.box(7, 7, 2, 6).bestCorner(-7, 3), 1);
+        check.due("upright: bestCorner(-7, 0)", Regions.box(7, 7, 2, 6).bestCorner(-7, 0), 0);
     }
 
     private static void questionsChangeNothing() {
-        IntegerHull hull = triangle();
+        IntegerHull hull = Regions.triangle(3);
         for (int round = 0; round < 40; round++) {
             check.due("round " + round + ": points()", hull.points(), 10);
             check.due("round " + round + ": has(1, 1)", hull.has(1, 1), true);
             check.due("round " + round + ": corners()", hull.corners(), 3);
-            check.due("round " + round + ": corner(2)", hull.corner(2), at(0, 3));
+            check.due("round " + round + ": corner(2)", hull.corner(2), Regions.at(0, 3));
             check.due("round " + round + ": area2()", hull.area2(), 9);
             check.due("round " + round + ": border()", hull.border(), 9);
             check.due("round " + round + ": best(3, 1)", hull.best(3, 1), 9);
@@ -383,37 +383,12 @@ public final class PromisesTest {
     }
 
     private static void objectsStandAlone() {
-        IntegerHull one = triangle();
+        IntegerHull one = Regions.triangle(3);
         IntegerHull two = new IntegerHull();
         two.condition(1, 0, 0);
         check.due("one of two: points()", one.points(), 10);
         check.due("two of two: points()", two.points(), 41);
         one.drop();
         check.due("two of two, after a drop in one: points()", two.points(), 41);
-    }
-
-    private static IntegerHull triangle() {
-        IntegerHull hull = new IntegerHull();
-        check.due("condition(1, 1, 3)", hull.condition(1, 1, 3), 1);
-        return hull;
-    }
-
-    private static IntegerHull withoutPoints() {
-        IntegerHull hull = new IntegerHull();
-        hull.condition(1, 1, -1);
-        return hull;
-    }
-
-    private static IntegerHull box(int left, int right, int bottom, int top) {
-        IntegerHull hull = new IntegerHull();
-        hull.condition(1, 0, right);
-        hull.condition(-1, 0, -left);
-        hull.condition(0, 1, top);
-        hull.condition(0, -1, -bottom);
-        return hull;
-    }
-
-    private static int at(int x, int y) {
-        return x + 64 * y;
     }
 }
