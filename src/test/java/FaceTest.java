@@ -6,6 +6,7 @@ import java.lang.reflect.Modifier;
 import java.nio.file.Files;
 import java.nio.file.Path;
 import java.util.Arrays;
+import java.util.Map;
 import java.util.Set;
 import java.util.TreeSet;
 import java.util.regex.Matcher;
@@ -19,17 +20,18 @@ public final class FaceTest {
             "int condition(int, int, int)", "int drop()", "int shift(int, int)", "int points()", "boolean has(int, int)",
             "int corners()", "int corner(int)", "int area2()", "int border()", "int best(int, int)",
             "int bestCorner(int, int)", "int column(int)");
-    private static final Set<String> CONSTANTS = Set.of("BAD_FACTOR", "FULL", "NONE");
+    private static final Map<String, Integer> CONSTANTS = Map.of("BAD_FACTOR", -1, "FULL", -2, "NONE", -3);
     private static final Set<String> FIELD_TYPES = Set.of(
             "int", "long", "short", "byte", "char", "boolean",
             "int[]", "long[]", "short[]", "byte[]", "char[]", "boolean[]");
+    private static final int CONSTANT_MODIFIERS = Modifier.PUBLIC | Modifier.STATIC | Modifier.FINAL;
     private static final Pattern FORBIDDEN_WORD = Pattern.compile(
             "\\b(import|package|throws?|try|catch|finally|synchronized|assert|instanceof|null|float|double|var|interface"
                     + "|enum|record|native|String|Object|Math|Integer|System|Arrays)\\b|->|::|\"");
 
     private static final Check check = new Check();
 
-    public static void main(String[] args) throws IOException {
+    public static void main(String[] args) throws IllegalAccessException, IOException {
         theClass();
         theConstructor();
         theMethods();
@@ -76,13 +78,14 @@ public final class FaceTest {
         }
     }
 
-    private static String face(Method method) {
+    /** A method as the document's face tells it, without the parameters' names. */
+    static String face(Method method) {
         String parameters = Arrays.toString(method.getParameterTypes());
         String inside = parameters.substring(1, parameters.length() - 1);
         return method.getReturnType().getTypeName() + " " + method.getName() + "(" + inside + ")";
     }
 
-    private static void theFields() {
+    private static void theFields() throws IllegalAccessException {
         int constants = 0;
         for (Field field : IntegerHull.class.getDeclaredFields()) {
             String type = field.getType().getTypeName();
@@ -92,9 +95,11 @@ public final class FaceTest {
                 check.due(field.getName() + " is final", Modifier.isFinal(modifiers), true);
                 check.due(field.getName() + " is int or long", type.equals("int") || type.equals("long"), true);
             }
-            if (CONSTANTS.contains(field.getName())) {
+            if (CONSTANTS.containsKey(field.getName())) {
                 constants++;
-                check.due(field.getName(), modifiers, Modifier.PUBLIC | Modifier.STATIC | Modifier.FINAL);
+                check.due(field.getName() + "'s modifiers", modifiers, CONSTANT_MODIFIERS);
+                check.due(field.getName() + "'s type", type, "int");
+                check.due(field.getName(), field.getLong(null), CONSTANTS.get(field.getName()));
             } else {
                 check.due(field.getName() + " is private", Modifier.isPrivate(modifiers), true);
             }

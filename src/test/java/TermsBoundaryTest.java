@@ -37,15 +37,14 @@ public final class TermsBoundaryTest {
         check.test("Terms: corner 0 has, of equal x, the least y", TermsBoundaryTest::firstHasLeastY);
         check.test("Terms: corners are numbered counterclockwise", TermsBoundaryTest::counterclockwise);
         check.test("Terms: points changes nothing", () -> changesNothing("points()", hull -> hull.points()));
-        check.test("Terms: has changes nothing", () -> changesNothing("has", TermsBoundaryTest::askHas));
+        check.test("Terms: has changes nothing", TermsBoundaryTest::hasChangesNothing);
         check.test("Terms: corners changes nothing", () -> changesNothing("corners()", hull -> hull.corners()));
-        check.test("Terms: corner changes nothing", () -> changesNothing("corner", TermsBoundaryTest::askCorner));
+        check.test("Terms: corner changes nothing", TermsBoundaryTest::cornerChangesNothing);
         check.test("Terms: area2 changes nothing", () -> changesNothing("area2()", hull -> hull.area2()));
         check.test("Terms: border changes nothing", () -> changesNothing("border()", hull -> hull.border()));
-        check.test("Terms: best changes nothing", () -> changesNothing("best", TermsBoundaryTest::askBest));
-        check.test("Terms: bestCorner changes nothing",
-                () -> changesNothing("bestCorner", TermsBoundaryTest::askBestCorner));
-        check.test("Terms: column changes nothing", () -> changesNothing("column", TermsBoundaryTest::askColumn));
+        check.test("Terms: best changes nothing", TermsBoundaryTest::bestChangesNothing);
+        check.test("Terms: bestCorner changes nothing", TermsBoundaryTest::bestCornerChangesNothing);
+        check.test("Terms: column changes nothing", TermsBoundaryTest::columnChangesNothing);
         check.end();
     }
 
@@ -321,47 +320,49 @@ public final class TermsBoundaryTest {
         check.due("corner(" + xy.length / 2 + ")", hull.corner(xy.length / 2), IntegerHull.NONE);
     }
 
+    /** The call once, so that a second one can't undo what the first has changed, and three times. */
     private static void changesNothing(String call, Consumer<IntegerHull> asking) {
         List<Supplier<IntegerHull>> regions = List.of(Regions::square, Regions::withoutPoints, Regions::octagon,
                 () -> Regions.point(7, 5), () -> Regions.line(1, 1, 40), () -> Regions.box(7, 7, 2, 6));
         for (Supplier<IntegerHull> region : regions) {
             Answers.unchanged(check, call, region, asking);
+            Answers.unchanged(check, call + ", three times", region, asking.andThen(asking).andThen(asking));
         }
     }
 
-    private static void askHas(IntegerHull hull) {
+    private static void hasChangesNothing() {
         for (int n : new int[] {LEAST, -1, 0, 7, 20, 40, 41, GREATEST}) {
-            hull.has(n, 20);
-            hull.has(20, n);
-            hull.has(n, n);
+            changesNothing("has(" + n + ", 20)", hull -> hull.has(n, 20));
+            changesNothing("has(20, " + n + ")", hull -> hull.has(20, n));
+            changesNothing("has(" + n + ", " + n + ")", hull -> hull.has(n, n));
         }
     }
 
-    private static void askCorner(IntegerHull hull) {
+    private static void cornerChangesNothing() {
         for (int i : new int[] {LEAST, -1, 0, 1, 2, 3, 7, 8, 81, 82, GREATEST}) {
-            hull.corner(i);
+            changesNothing("corner(" + i + ")", hull -> hull.corner(i));
         }
     }
 
-    private static void askBest(IntegerHull hull) {
+    private static void bestChangesNothing() {
         for (int n : new int[] {LEAST, -101, -100, -1, 0, 1, 100, 101, GREATEST}) {
-            hull.best(n, 1);
-            hull.best(1, n);
-            hull.best(n, n);
+            changesNothing("best(" + n + ", 1)", hull -> hull.best(n, 1));
+            changesNothing("best(1, " + n + ")", hull -> hull.best(1, n));
+            changesNothing("best(" + n + ", " + n + ")", hull -> hull.best(n, n));
         }
     }
 
-    private static void askBestCorner(IntegerHull hull) {
+    private static void bestCornerChangesNothing() {
         for (int n : new int[] {LEAST, -101, -100, -1, 0, 1, 100, 101, GREATEST}) {
-            hull.bestCorner(n, 1);
-            hull.bestCorner(1, n);
-            hull.bestCorner(n, n);
+            changesNothing("bestCorner(" + n + ", 1)", hull -> hull.bestCorner(n, 1));
+            changesNothing("bestCorner(1, " + n + ")", hull -> hull.bestCorner(1, n));
+            changesNothing("bestCorner(" + n + ", " + n + ")", hull -> hull.bestCorner(n, n));
         }
     }
 
-    private static void askColumn(IntegerHull hull) {
+    private static void columnChangesNothing() {
         for (int x : new int[] {LEAST, -1, 0, 7, 20, 40, 41, GREATEST}) {
-            hull.column(x);
+            changesNothing("column(" + x + ")", hull -> hull.column(x));
         }
     }
 }
